@@ -19,6 +19,8 @@ public final class NaiveRuns {
         "ask", "plane", "go", "swap", "setTotal", "setPin", "undo", "switches", "reached", "apart", "key", "judge",
         "see", "unsee", "which", "share", "loose", "seed", "drawn", "keep", "again", "count"};
 
+    private static final List<String> RARE = List.of("write", "wipe", "sheet", "setTotal", "again", "unsee");
+
     private static int wrong = 0;
     private static final Map<String, Integer> good = new HashMap<>();
 
@@ -44,7 +46,7 @@ public final class NaiveRuns {
         Naive naive = new Naive();
         List<String> calls = new ArrayList<>();
         int left = CALLS;
-        boolean dull = random.nextInt(8) == 0;
+        boolean dull = random.nextInt(6) == 0;
         while (left > 0) {
             for (long[] call : nextCalls(random, naive, dull)) {
                 if (left == 0) {
@@ -71,13 +73,13 @@ public final class NaiveRuns {
     // ---- which calls
 
     private static long[][] nextCalls(Random random, Naive naive, boolean dull) {
-        if (random.nextInt(naive.acts.isEmpty() && naive.answerList().isEmpty() ? 6 : 60) == 0) {
+        if (random.nextInt(naive.now.cells() == 1 ? 10 : naive.answerList().size() < 2 ? 60 : 150) == 0) {
             return tellText(random);
         }
         int name = random.nextInt(NAMES.length);
-        boolean changing = NAMES[name].equals("setTotal") || NAMES[name].equals("wipe");
-        if (changing && random.nextInt(dull ? 2 : 5) != 0) {
-            name = index("undo");
+        // Calls after which there is less to ask come less often.
+        for (int i = 0; i < (dull ? 1 : 2) && RARE.contains(NAMES[name]); i++) {
+            name = random.nextInt(NAMES.length);
         }
         long[] call = new long[5];
         call[0] = name;
@@ -200,7 +202,7 @@ public final class NaiveRuns {
     private static long[][] tellText(Random random) {
         int h = random.nextInt(3) == 0 ? 1 + random.nextInt(4) : 3 + random.nextInt(2);
         int w = random.nextInt(3) == 0 ? 1 + random.nextInt(5) : 4 + random.nextInt(2);
-        int most = 1 + random.nextInt(9);
+        int most = random.nextInt(3) == 0 ? 1 + random.nextInt(9) : 4 + random.nextInt(3);
         boolean[] plane = new boolean[h * w];
         for (int cell = 0; cell < plane.length; cell++) {
             plane[cell] = random.nextInt(10) < most;
@@ -210,6 +212,9 @@ public final class NaiveRuns {
         for (int cell = 0; cell < plane.length; cell++) {
             rows[cell / w] += plane[cell] ? 1 : 0;
             columns[cell % w] += plane[cell] ? 1 : 0;
+        }
+        if (random.nextInt(5) == 0) {
+            moveOne(random, random.nextBoolean() ? rows : columns);
         }
         StringBuilder text = new StringBuilder("P").append(h).append(w);
         for (int total : rows) {
@@ -240,6 +245,16 @@ public final class NaiveRuns {
         calls.add(new long[] {index("fault"), 0, 0, 0, 0});
         calls.add(new long[] {index("sheet"), 0, 0, 0, 0});
         return calls.toArray(new long[0][]);
+    }
+
+    /** Two TOTALS that together are as many as before, so that THE TEST can fail behind its first step. */
+    private static void moveOne(Random random, int[] totals) {
+        int from = random.nextInt(totals.length);
+        int to = random.nextInt(totals.length);
+        int most = Math.min(totals[from], (totals.length == 4 ? 5 : 4) - totals[to]);
+        int moved = most <= 0 ? 0 : 1 + random.nextInt(most);
+        totals[from] -= moved;
+        totals[to] += moved;
     }
 
     private static long ask(TwoViews x, long[] call) {
