@@ -1139,7 +1139,7 @@ public final class TwoViews {
             found = 0;
             reach(board, walkedPlane, 0);
             // When all ANSWERS are found, those still in the queue can lead to no other one.
-            for (int i = 0; i < found && found < board.list.size; i++) {
+            for (int i = 0; i < MOST_ANSWERS && i < found && found < board.list.size; i++) {
                 reachAround(board, queue[i]);
             }
         }
@@ -1150,7 +1150,7 @@ public final class TwoViews {
 
         private void reach(Board board, int plane, int far) {
             int number = board.list.numberOf(plane);
-            if (number != NONE && steps[number] == NONE) {
+            if (number != NONE && steps[number] == NONE && found < MOST_ANSWERS) {
                 steps[number] = far;
                 queue[found] = number;
                 found++;

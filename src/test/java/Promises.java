@@ -204,6 +204,27 @@ public final class Promises {
         dueFault("P45222222222o00o01o02o03o04o10o11o12oo", 30);
         dueFault("P45222222222x34o4", 16);
         dueFault("P45222222222x35", 14);
+        TwoViews x = new TwoViews();
+        tell(x, "P11 1 1 o00");
+        tell(x, "P11 1 1 o");
+        due("letters that were wiped", x.fault(), 6);
+        tell(x, "P11 1");
+        due("letters that were wiped", x.fault(), 4);
+        tell(x, "P11 1 1");
+        due("letters that were wiped", x.fault(), NONE);
+        tell(x, "");
+        due("letters that were wiped", x.fault(), 0);
+        tell(x, "P12 1 01 o01");
+        x.sheet();
+        tell(x, "P12 1 10");
+        x.sheet();
+        due("pins that were told before", x.count(3), 0);
+        due("pins that were told before", x.answers(), 1);
+        tell(x, "P");
+        for (int i = 2; i <= 40; i++) {
+            x.write('1');
+        }
+        due("forty letters", x.fault(), 5);
     }
 
     private static void sheets() {
@@ -286,6 +307,7 @@ public final class Promises {
         // Row 0 takes columns 1 and 3, that lack the most; row 1 finds them lacking one, as 0 does.
         dueCells("lacking the most", filledOf(told("P24 21 1101")), "1100 0001");
         dueCells("lacking the most", filledOf(told("P34 221 1202")), "0101 1100 0001");
+        dueCells("four rows, the last first", filledOf(told("P45 1234 33220")), "00010 11000 11100 11110");
         TwoViews x = told("P34 132 2211");
         refuses("filled", x::filled, UNKNOWN, -1, 12, LEAST, MOST);
         due("filled", told("P33 300 300").filled(0), STATE);
@@ -323,6 +345,18 @@ public final class Promises {
         due("answers", told("P33 111 112").answers(), 0);
         due("answers", told("P33 111 111 o00").answers(), 2);
         due("answers", told("P33 111 111 o00o01").answers(), 0);
+        duePlane(told("P15 1 00001"), "00001");
+        duePlane(told("P15 2 10001"), "10001");
+        duePlane(told("P15 5 11111"), "11111");
+        duePlane(told("P41 1111 4"), "1 1 1 1");
+        duePlane(told("P45 5050 22222"), "11111 00000 11111 00000");
+        TwoViews moved = told("P33 111 111");
+        due("answers", moved.setTotal(0, 0, 2), 0);
+        due("answers", moved.setTotal(0, 1, 0), 3);
+        due("answers", moved.setTotal(0, 0, 0), 0);
+        due("answers", moved.setTotal(0, 2, 3), 1);
+        due("answers", moved.setTotal(1, 0, 2), 0);
+        due("answers", moved.setTotal(1, 1, 0), 0);
         promise = 12;
         TwoViews x = told("P33 111 111 x00");
         due("cell", x.cell(2, 0), 1);
@@ -617,6 +651,8 @@ public final class Promises {
         due("three cells", x.key(0), 3);
         // Row 1 is yes in column 2, row 2 in column 1, and row 0 is not in column 0.
         due("three cells", x.key(1), 10710);
+        x = told("P45 3222 23211");
+        due("three cells", x.key(1), 10206);
         x = told("P44 2222 2222");
         due("more", x.key(0), NONE);
         due("more", x.key(1), NONE);
@@ -686,6 +722,12 @@ public final class Promises {
         due("neither", x.judge(1, 50003), 0);
         due("no such cell", x.judge(1, 50902), 0);
         due("sure, no 0", x.judge(1, 50012), 0);
+        TwoViews wide = told("P45 2332 22222");
+        due("two figures", wide.judge(2, 5190251202L), NONE);
+        due("two figures", wide.judge(2, 2190251900L), NONE);
+        due("two figures", wide.judge(2, 2190251901L), 1);
+        due("two figures", wide.judge(2, 2120141201L), NONE);
+        due("two figures", wide.judge(2, 2120141200L), 1);
 
         due("as many", x.judge(1, 60006), NONE);
         due("more", x.judge(1, 60007), 0);
@@ -726,6 +768,14 @@ public final class Promises {
         due("unsee", x.unsee(), 6);
         due("unsee", x.unsee(), 0);
         due("which", x.which(0), 6);
+        TwoViews wide = told("P45 2332 22222");
+        wide.see(19, 0);
+        due("which", wide.which(0) < 310 ? 1 : 0, 1);
+        wide.unsee();
+        due("which", wide.which(0), 310);
+        wide.see(19, 1);
+        wide.unsee();
+        due("which", wide.which(0), 310);
         promise = 28;
         x.see(9, 1);
         due("no such cell", x.which(0), 0);
@@ -814,11 +864,35 @@ public final class Promises {
         due("seed", x.seed(0), after);
         due("drawn", together, x.drawn(20));
         due("nothing changes", x.plane() + x.count(6), 0);
+        dueDrawn("P45 2332 22222", 5);
+        dueDrawn("P34 222 1221", -77);
+        dueDrawn("P43 1212 222 x31", 123456789012345L);
         refuses("drawn", x::drawn, OUTSIDE, -1, 0, 21, LEAST, MOST);
         due("no plane", told("P22 22 21").drawn(20), 0);
         TwoViews none = told("P22 22 21");
         none.drawn(1);
         due("the seed goes on", none.seed(0), 1442695040888963407L);
+    }
+
+    /** Draws one by one, each told by swaps of another object that may or may not be switches. */
+    private static void dueDrawn(String text, long seed) {
+        TwoViews x = told(text);
+        TwoViews walker = told(text);
+        int h = x.count(1);
+        int w = x.count(2);
+        long s = seed;
+        int together = 0;
+        for (int m = 1; m <= 20; m++) {
+            s = s * 6364136223846793005L + 1442695040888963407L;
+            int v = (int) (s >>> 33);
+            walker.swap(v % h, (v >> 2) % h, (v >> 4) % w, (v >> 7) % w);
+            together += walker.plane();
+            x.seed(seed);
+            due("drawn " + m + " of " + text, x.drawn(m), together);
+            due("seed", x.seed(0), s);
+        }
+        due("nothing changes", x.plane() + x.count(6), 0);
+        due("some were switches", walker.count(6) > 0 ? 1 : 0, 1);
     }
 
     /** What one draw makes of the first answer of two by two: number 1, if it is its switch. */
