@@ -357,6 +357,11 @@ public final class Promises {
         due("answers", moved.setTotal(0, 2, 3), 1);
         due("answers", moved.setTotal(1, 0, 2), 0);
         due("answers", moved.setTotal(1, 1, 0), 0);
+        TwoViews turned = told("P23 21 111");
+        tell(turned, "P32 211 11");
+        due("the same figures, other rows", turned.sheet(), 0);
+        tell(turned, "P23 21 111");
+        due("the same figures, other rows", turned.sheet(), 3);
         promise = 12;
         TwoViews x = told("P33 111 111 x00");
         due("cell", x.cell(2, 0), 1);
