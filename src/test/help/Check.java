@@ -36,6 +36,13 @@ final class Check {
         }
     }
 
+    /** From here on, what is due is due by a place of the document, no words of it quoted. */
+    static void at(String somePlace) {
+        endOfWords();
+        place = somePlace;
+        words = "";
+    }
+
     private static void endOfWords() {
         if (!words.isEmpty() && answers == answersBefore) {
             wrong("nothing is asked about these words");
@@ -43,16 +50,17 @@ final class Check {
         answersBefore = answers;
     }
 
-    static void end(String places, int howMany) {
-        endOfWords();
-        words = "";
-        place = places;
-        if (DOCUMENT.places(places) != howMany) {
-            wrong("there are " + DOCUMENT.places(places) + " such places");
-        }
+    /** No words may be left over of so many places whose names begin so. */
+    static void dueAllQuoted(String places, int howMany) {
+        at(places);
+        due("places", DOCUMENT.places(places), howMany);
         for (String left : DOCUMENT.notQuoted(places)) {
             wrong("words without a test: " + left);
         }
+    }
+
+    static void end() {
+        endOfWords();
         System.out.println(wrong == 0 ? answers + " answers are as due" : wrong + " answers are not as due");
         if (wrong != 0) {
             System.exit(1);
@@ -61,7 +69,7 @@ final class Check {
 
     private static void wrong(String what) {
         wrong++;
-        System.out.println(place + " '" + words + "': " + what);
+        System.out.println(place + (words.isEmpty() ? "" : " '" + words + "'") + ": " + what);
     }
 
     // ---- what is due
@@ -97,7 +105,11 @@ final class Check {
     }
 
     static void duePlane(TwoViews x, String want) {
-        due("the plane", planeOf(x), want.replace(" ", ""));
+        dueCells("the plane", planeOf(x), want);
+    }
+
+    static void dueCells(String what, String got, String want) {
+        due(what, got, want.replace(" ", ""));
     }
 
     static void dueFault(String text, int want) {

@@ -16,6 +16,8 @@ final class Document {
 
     Document() {
         String all = read();
+        put("Use", first(all, "(?m)^(An object is used for .*)$"));
+        put("Face", first(all, "public static final int ([^;]*);"));
         String terms = all.substring(all.indexOf("## Terms") + 8, all.indexOf("Ahead of the calls")).replaceAll("```(text)?", " ");
         String[] parts = terms.split("==== [123] ");
         for (int i = 0; i < parts.length; i++) {
@@ -33,6 +35,11 @@ final class Document {
         } catch (IOException e) {
             throw new IllegalStateException("there is no ../shared/DOC.md", e);
         }
+    }
+
+    private static String first(String all, String pattern) {
+        Matcher matcher = Pattern.compile(pattern).matcher(all);
+        return matcher.find() ? matcher.group(1) : "";
     }
 
     private void put(String place, String text) {

@@ -24,7 +24,8 @@ public final class PromiseSentences {
         sharesAndChances();
         slots();
         counts();
-        Check.end("Promise", 35);
+        Check.dueAllQuoted("Promise", 35);
+        Check.end();
     }
 
     private static void promise(int number, String words) {
@@ -165,6 +166,8 @@ public final class PromiseSentences {
         dueNext(x, "P33 201 111", "011 000 100");
         dueNext(x, "P33 111 201", "001 100 100");
         dueNext(x, "P33 111 102", "001 001 100");
+        dueNext(x, "P23 11 020", "010 010");
+        dueNext(x, "P32 110 20", "10 10 00");
         dueNext(x, "P23 21 111", "011 100");
         dueNext(x, "P32 111 21", "01 10 10");
         dueNext(x, "P23 11 110", "010 100");

@@ -1,10 +1,8 @@
 /** The promises of the document one by one: ordinary inputs, edges, wrong inputs. */
 public final class Promises {
-    private static final int UNKNOWN = -1, OUTSIDE = -2, STATE = -3, FULL = -4, NONE = -9;
-    private static final int LEAST = Integer.MIN_VALUE, MOST = Integer.MAX_VALUE;
-
-    private static int wrong = 0;
-    private static int promise = 0;
+    private static final int UNKNOWN = Check.UNKNOWN, OUTSIDE = Check.OUTSIDE, STATE = Check.STATE;
+    private static final int FULL = Check.FULL, NONE = Check.NONE;
+    private static final int LEAST = Check.LEAST, MOST = Check.MOST;
 
     public static void main(String[] args) {
         newObject();
@@ -35,77 +33,35 @@ public final class Promises {
         drawing();
         keeping();
         counting();
-        System.out.println(wrong == 0 ? "all answers are as due" : wrong + " answers are not as due");
-        if (wrong != 0) {
-            System.exit(1);
-        }
+        Check.end();
+    }
+
+    private static void promise(int number) {
+        Check.at("Promise " + number);
     }
 
     private static void due(String call, long got, long want) {
-        if (got != want) {
-            wrong++;
-            System.out.println("promise " + promise + ": " + call + " answered " + got + ", due is " + want);
-        }
+        Check.due(call, got, want);
     }
 
-    /** Asks a number for what it should refuse alike. */
-    private interface Call {
-        long of(int number);
-    }
-
-    private static void refuses(String call, Call some, long want, int... numbers) {
-        for (int number : numbers) {
-            due(call + " by " + number, some.of(number), want);
-        }
+    private static void refuses(String call, Check.Asked asked, long want, int... numbers) {
+        Check.dueAlike(call, asked, want, numbers);
     }
 
     private static TwoViews told(String text) {
-        TwoViews x = new TwoViews();
-        tell(x, text);
-        if (x.sheet() < 0) {
-            wrong++;
-            System.out.println("promise " + promise + ": '" + text + "' is no sheet");
-        }
-        return x;
+        return Check.told(text);
     }
 
-    /** Writes a text; blanks in it only part it for the eye. */
     private static void tell(TwoViews x, String text) {
-        x.wipe();
-        for (char letter : text.replace(" ", "").toCharArray()) {
-            x.write(letter);
-        }
-    }
-
-    private static String filledOf(TwoViews x) {
-        StringBuilder cells = new StringBuilder();
-        for (int cell = 0; cell < x.count(1) * x.count(2); cell++) {
-            cells.append(x.filled(cell));
-        }
-        return cells.toString();
-    }
-
-    private static String planeOf(TwoViews x) {
-        StringBuilder cells = new StringBuilder();
-        for (int cell = 0; cell < x.count(1) * x.count(2); cell++) {
-            cells.append(x.cell(cell, 0));
-        }
-        return cells.toString();
+        Check.tell(x, text);
     }
 
     private static void duePlane(TwoViews x, String want) {
-        dueCells("the plane", planeOf(x), want);
-    }
-
-    private static void dueCells(String what, String got, String want) {
-        if (!got.equals(want.replace(" ", ""))) {
-            wrong++;
-            System.out.println("promise " + promise + ": " + what + " is " + got + ", due is " + want);
-        }
+        Check.duePlane(x, want);
     }
 
     private static void newObject() {
-        promise = 1;
+        promise(1);
         TwoViews x = new TwoViews();
         due("rows", x.count(1), 1);
         due("columns", x.count(2), 1);
@@ -123,7 +79,7 @@ public final class Promises {
     }
 
     private static void writing() {
-        promise = 2;
+        promise(2);
         TwoViews x = new TwoViews();
         refuses("write", x::write, OUTSIDE, -1, 256, LEAST, MOST);
         due("write", x.write(0), 1);
@@ -137,7 +93,7 @@ public final class Promises {
     }
 
     private static void wiping() {
-        promise = 3;
+        promise(3);
         due("wipe", new TwoViews().wipe(), 0);
         TwoViews x = told("P22 11 11");
         due("wipe", x.wipe(), 7);
@@ -157,7 +113,7 @@ public final class Promises {
     }
 
     private static void faults() {
-        promise = 4;
+        promise(4);
         dueFault("", 0);
         dueFault("p1100", 0);
         dueFault("P", 1);
@@ -228,7 +184,7 @@ public final class Promises {
     }
 
     private static void sheets() {
-        promise = 5;
+        promise(5);
         TwoViews x = told("P22 11 11");
         duePlane(x, "01 10");
         x.go(1);
@@ -264,7 +220,7 @@ public final class Promises {
     }
 
     private static void totalsAndPins() {
-        promise = 6;
+        promise(6);
         TwoViews x = told("P23 21 012 o01x12");
         due("total", x.total(0, 0), 2);
         due("total", x.total(0, 1), 1);
@@ -274,7 +230,7 @@ public final class Promises {
         refuses("row", i -> x.total(0, i), UNKNOWN, -1, 2, LEAST, MOST);
         refuses("column", i -> x.total(1, i), UNKNOWN, -1, 3, LEAST, MOST);
         refuses("side", side -> x.total(side, 9), OUTSIDE, -1, 2, LEAST, MOST);
-        promise = 7;
+        promise(7);
         due("pin", x.pin(0), 0);
         due("pin", x.pin(1), 1);
         due("pin", x.pin(5), 2);
@@ -282,7 +238,7 @@ public final class Promises {
     }
 
     private static void tests() {
-        promise = 8;
+        promise(8);
         due("as many", told("P33 111 111").test(), NONE);
         due("not as many", told("P33 111 112").test(), 0);
         due("not as many, and more", told("P33 300 301").test(), 0);
@@ -300,14 +256,14 @@ public final class Promises {
     }
 
     private static void filling() {
-        promise = 9;
-        dueCells("filled, pins aside", filledOf(told("P33 111 111 o02")), "100 010 001");
+        promise(9);
+        Check.dueCells("filled, pins aside", Check.filledOf(told("P33 111 111 o02")), "100 010 001");
         // Row 1 takes columns 0, 1, 2; row 2 those that still lack one: 0, 1 by number; row 0 column 3.
-        dueCells("greatest first", filledOf(told("P34 132 2211")), "0001 1110 1100");
+        Check.dueCells("greatest first", Check.filledOf(told("P34 132 2211")), "0001 1110 1100");
         // Row 0 takes columns 1 and 3, that lack the most; row 1 finds them lacking one, as 0 does.
-        dueCells("lacking the most", filledOf(told("P24 21 1101")), "1100 0001");
-        dueCells("lacking the most", filledOf(told("P34 221 1202")), "0101 1100 0001");
-        dueCells("four rows, the last first", filledOf(told("P45 1234 33220")), "00010 11000 11100 11110");
+        Check.dueCells("lacking the most", Check.filledOf(told("P24 21 1101")), "1100 0001");
+        Check.dueCells("lacking the most", Check.filledOf(told("P34 221 1202")), "0101 1100 0001");
+        Check.dueCells("four rows, the last first", Check.filledOf(told("P45 1234 33220")), "00010 11000 11100 11110");
         TwoViews x = told("P34 132 2211");
         refuses("filled", x::filled, UNKNOWN, -1, 12, LEAST, MOST);
         due("filled", told("P33 300 300").filled(0), STATE);
@@ -316,7 +272,7 @@ public final class Promises {
     }
 
     private static void mending() {
-        promise = 10;
+        promise(10);
         TwoViews x = told("P22 11 11");
         due("mended", x.mended(0), 0);
         due("mended", x.mended(1), NONE);
@@ -338,7 +294,7 @@ public final class Promises {
     }
 
     private static void answersAndCells() {
-        promise = 11;
+        promise(11);
         due("answers", told("P33 111 111").answers(), 6);
         due("answers", told("P45 2332 22222").answers(), 310);
         due("answers", told("P44 2222 2222").answers(), 90);
@@ -362,7 +318,7 @@ public final class Promises {
         due("the same figures, other rows", turned.sheet(), 0);
         tell(turned, "P23 21 111");
         due("the same figures, other rows", turned.sheet(), 3);
-        promise = 12;
+        promise(12);
         TwoViews x = told("P33 111 111 x00");
         due("cell", x.cell(2, 0), 1);
         due("cell", x.cell(1, 0), 0);
@@ -383,7 +339,7 @@ public final class Promises {
     }
 
     private static void odds() {
-        promise = 13;
+        promise(13);
         TwoViews x = told("P33 111 111");
         due("odds", x.odds(8, true), 1);
         due("odds", x.odds(8, false), 3);
@@ -404,7 +360,7 @@ public final class Promises {
     }
 
     private static void asking() {
-        promise = 14;
+        promise(14);
         TwoViews x = told("P33 111 111 x00");
         // Four answers; cells 1 and 2 have two yes and two no.
         due("ask", x.ask(0), 1);
@@ -417,7 +373,7 @@ public final class Promises {
         due("ask", told("P22 22 21").ask(1), NONE);
         refuses("ask", x::ask, OUTSIDE, -1, 2, LEAST, MOST);
         refuses("ask", told("P22 22 21")::ask, OUTSIDE, -1, 2, LEAST, MOST);
-        promise = 15;
+        promise(15);
         due("plane", x.plane(), 0);
         x.go(3);
         due("plane", x.plane(), 3);
@@ -425,7 +381,7 @@ public final class Promises {
     }
 
     private static void going() {
-        promise = 16;
+        promise(16);
         TwoViews x = told("P33 111 111");
         due("go", x.go(0), 0);
         due("also an act", x.count(6), 1);
@@ -443,7 +399,7 @@ public final class Promises {
     }
 
     private static void swapping() {
-        promise = 17;
+        promise(17);
         TwoViews x = told("P33 111 111");
         due("swap", x.swap(0, 1, 2, 1), 3);
         duePlane(x, "010001100");
@@ -468,7 +424,7 @@ public final class Promises {
     }
 
     private static void settingTotals() {
-        promise = 18;
+        promise(18);
         TwoViews x = told("P33 111 111");
         due("same", x.setTotal(0, 0, 1), 6);
         due("also an act", x.count(6), 1);
@@ -497,7 +453,7 @@ public final class Promises {
     }
 
     private static void settingPins() {
-        promise = 19;
+        promise(19);
         TwoViews x = told("P33 111 111");
         x.go(3);
         due("setPin", x.setPin(1, 1), 2);
@@ -532,7 +488,7 @@ public final class Promises {
     }
 
     private static void undoing() {
-        promise = 20;
+        promise(20);
         TwoViews x = told("P33 111 111");
         x.go(4);
         x.setPin(0, 2);
@@ -564,7 +520,7 @@ public final class Promises {
     }
 
     private static void switching() {
-        promise = 21;
+        promise(21);
         TwoViews x = told("P33 111 111");
         due("switches", x.switches(0), 3);
         due("switches", x.switches(1), 121);
@@ -583,7 +539,7 @@ public final class Promises {
     }
 
     private static void reaching() {
-        promise = 22;
+        promise(22);
         due("reached", told("P33 111 111").reached(), 6);
         due("reached", told("P45 2332 22222").reached(), 310);
         due("reached", told("P22 22 22").reached(), 1);
@@ -599,7 +555,7 @@ public final class Promises {
     }
 
     private static void measuring() {
-        promise = 23;
+        promise(23);
         TwoViews x = told("P33 111 111");
         due("apart", x.apart(0), STATE);
         x.keep(0);
@@ -633,7 +589,7 @@ public final class Promises {
     }
 
     private static void keys() {
-        promise = 24;
+        promise(24);
         TwoViews x = told("P22 22 22");
         due("no cells", x.key(0), 0);
         due("no cells", x.key(1), 0);
@@ -668,7 +624,7 @@ public final class Promises {
     }
 
     private static void judging() {
-        promise = 25;
+        promise(25);
         TwoViews x = told("P33 111 111");
         refuses("n", n -> told("P33 111 111").judge(n, 60000), OUTSIDE, -1, 0, 4, LEAST, MOST);
         due("row", x.judge(1, -1), OUTSIDE);
@@ -746,7 +702,7 @@ public final class Promises {
     }
 
     private static void seeing() {
-        promise = 26;
+        promise(26);
         TwoViews x = told("P33 111 111");
         refuses("cell", cell -> new TwoViews().see(cell, 0), OUTSIDE, -1, 20, LEAST, MOST);
         refuses("v", v -> new TwoViews().see(0, v), OUTSIDE, -1, 2, LEAST, MOST);
@@ -754,7 +710,7 @@ public final class Promises {
         due("none yet", x.which(1), 0);
         due("see", x.see(0, 0), 1);
         due("see", x.see(19, 0), 2);
-        promise = 28;
+        promise(28);
         due("which", x.which(0), 4);
         due("which", x.which(1), 0);
         x.see(2, 0);
@@ -764,12 +720,12 @@ public final class Promises {
         due("both", x.which(0), 0);
         due("both", x.which(1), NONE);
         refuses("which", x::which, OUTSIDE, -1, 2, LEAST, MOST);
-        promise = 26;
+        promise(26);
         due("see", x.see(2, 1), 5);
         due("see", x.see(2, 1), 6);
         due("see", x.see(2, 1), FULL);
         due("see", x.see(20, 1), OUTSIDE);
-        promise = 27;
+        promise(27);
         due("unsee", x.unsee(), 6);
         due("unsee", x.unsee(), 0);
         due("which", x.which(0), 6);
@@ -781,7 +737,7 @@ public final class Promises {
         wide.see(19, 1);
         wide.unsee();
         due("which", wide.which(0), 310);
-        promise = 28;
+        promise(28);
         x.see(9, 1);
         due("no such cell", x.which(0), 0);
         x.unsee();
@@ -792,7 +748,7 @@ public final class Promises {
     }
 
     private static void shares() {
-        promise = 29;
+        promise(29);
         TwoViews x = told("P33 111 111 x00o02");
         due("share", x.share(0, true), 1);
         due("share", x.share(0, false), 1);
@@ -821,7 +777,7 @@ public final class Promises {
     }
 
     private static void loosening() {
-        promise = 30;
+        promise(30);
         TwoViews x = told("P22 11 11 o00");
         due("loose", x.loose(3, true), 7);
         due("loose", x.loose(3, false), 10);
@@ -847,12 +803,12 @@ public final class Promises {
     }
 
     private static void drawing() {
-        promise = 31;
+        promise(31);
         TwoViews x = told("P22 11 11");
         due("seed", x.seed(Long.MIN_VALUE), 0);
         due("seed", x.seed(Long.MAX_VALUE), Long.MIN_VALUE);
         due("seed", x.seed(0), Long.MAX_VALUE);
-        promise = 32;
+        promise(32);
         due("drawn", x.drawn(1), byHand(1442695040888963407L));
         due("seed", x.seed(0), 1442695040888963407L);
         due("drawn", x.drawn(20) >= 0 ? 1 : 0, 1);
@@ -911,13 +867,13 @@ public final class Promises {
     }
 
     private static void keeping() {
-        promise = 33;
+        promise(33);
         TwoViews x = told("P33 111 111 x00");
         refuses("keep", x::keep, UNKNOWN, -1, 2, LEAST, MOST);
         x.go(2);
         due("keep", x.keep(1), 9);
         due("acts stay", x.count(6), 1);
-        promise = 34;
+        promise(34);
         refuses("again", x::again, UNKNOWN, -1, 2, LEAST, MOST);
         due("again", x.again(0), STATE);
         x.setPin(0, 1);
@@ -941,7 +897,7 @@ public final class Promises {
     }
 
     private static void counting() {
-        promise = 35;
+        promise(35);
         TwoViews x = told("P34 210 1110 x00o01");
         x.see(1, 1);
         x.see(1, 1);

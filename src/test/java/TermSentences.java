@@ -10,6 +10,8 @@ public final class TermSentences {
     private static final String SIX_PINS = "P33 111 111 x00x01o02x10o11x12";
 
     public static void main(String[] args) {
+        constants();
+        manyCalls();
         refusals();
         sheets();
         faults();
@@ -21,7 +23,10 @@ public final class TermSentences {
         seenAndWhich();
         sharesAndChances();
         slots();
-        Check.end("Terms", 4);
+        Check.dueAllQuoted("Face", 1);
+        Check.dueAllQuoted("Use", 1);
+        Check.dueAllQuoted("Terms", 4);
+        Check.end();
     }
 
     private static void due(String call, long got, long want) {
@@ -30,6 +35,42 @@ public final class TermSentences {
 
     private static TwoViews told(String text) {
         return Check.told(text);
+    }
+
+    // ---- the face, and how it is used
+
+    private static void constants() {
+        Check.words("Face", "UNKNOWN = -1, OUTSIDE = -2, STATE = -3, FULL = -4, NONE = -9");
+        due("UNKNOWN", TwoViews.UNKNOWN, -1);
+        due("OUTSIDE", TwoViews.OUTSIDE, -2);
+        due("STATE", TwoViews.STATE, -3);
+        due("FULL", TwoViews.FULL, -4);
+        due("NONE", TwoViews.NONE, -9);
+        due("what is refused", new TwoViews().pin(1), TwoViews.UNKNOWN);
+    }
+
+    private static void manyCalls() {
+        Check.words("Use", "An object is used for at most 512 calls after it has been made; what later calls answer is free.");
+        // A wipe, nine letters, a sheet, then 499 acts are 510 calls.
+        TwoViews x = told("P33 111 111");
+        for (int calls = 12; calls <= 510; calls++) {
+            x.go(calls % 6);
+        }
+        due("the 511th call", x.plane(), 0);
+        due("the 512th call", x.undo(), 13);
+        TwoViews y = new TwoViews();
+        for (int calls = 1; calls <= 511; calls++) {
+            y.write('P');
+        }
+        due("the 512th call", y.write('P'), FULL);
+        TwoViews z = told("P45 2332 22222");
+        for (int calls = 15; calls <= 509; calls += 3) {
+            z.go(calls % 310);
+            z.keep(calls % 2);
+            z.again(calls % 2);
+        }
+        due("one of the last calls", z.reached(), 310);
+        due("the last call", z.answers(), 310);
     }
 
     // ---- REFUSALS
@@ -378,8 +419,8 @@ public final class TermSentences {
         Check.duePlane(told("P22 21 12"), "11 01");
 
         Check.words("Terms 1", "An ANSWER is a PLANE in which each ROW and each COLUMN has as many that are yes as its TOTAL, and each PIN holds.");
-        for (int h = 1; h <= 3; h++) {
-            for (int w = 1; w <= 3; w++) {
+        for (int h = 1; h <= 4; h++) {
+            for (int w = 1; w <= 5 && h * w <= 10; w++) {
                 dueAnswersOfAllTotals(h, w);
             }
         }
@@ -638,8 +679,8 @@ public final class TermSentences {
         due("three rows of four, the first ones", told("P44 0222 4200").test(), 3);
         due("two rows of four", told("P45 4411 42220").test(), NONE);
         due("two rows of four", told("P45 4411 44110").test(), 2);
-        for (int h = 1; h <= 3; h++) {
-            for (int w = 1; w <= 3; w++) {
+        for (int h = 1; h <= 4; h++) {
+            for (int w = 1; w <= 5 && h * w <= 12; w++) {
                 dueTestOfAllTotals(h, w);
             }
         }
@@ -722,7 +763,7 @@ public final class TermSentences {
     }
 
     private static void dueFilled(String text, String want) {
-        Check.due("filled of " + text, Check.filledOf(told(text)), want.replace(" ", ""));
+        Check.dueCells("filled of " + text, Check.filledOf(told(text)), want);
     }
 
     private static void mended() {
