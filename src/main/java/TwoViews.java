@@ -504,8 +504,8 @@ public final class TwoViews {
     private static final class Sheet {
         int h = 1;
         int w = 1;
-        final int[] rowTotals = new int[MOST_ROWS];
-        final int[] columnTotals = new int[MOST_COLUMNS];
+        private final int[] rowTotals = new int[MOST_ROWS];
+        private final int[] columnTotals = new int[MOST_COLUMNS];
         int pinned;
         int pinnedYes;
         int plane;
@@ -762,6 +762,9 @@ public final class TwoViews {
             31};
         private static final int[] FIRST_WITH_YES = {0, 1, 6, 16, 26, 31, 32};
 
+        /** Steps from here down to 1 lead to any number below 512, so to each ANSWER. */
+        private static final int WIDEST_STEP = 256;
+
         /** The ANSWERS that there would be without PINS. */
         final int[] unpinned = new int[MOST_ANSWERS];
         int unpinnedSize;
@@ -795,7 +798,7 @@ public final class TwoViews {
         private static int columnsWith(Sheet sheet, int figure) {
             int columns = 0;
             for (int c = 0; c < sheet.w; c++) {
-                if ((sheet.columnTotals[c] & figure) != 0) {
+                if ((sheet.totalOf(1, c) & figure) != 0) {
                     columns |= columnBit(c);
                 }
             }
@@ -811,7 +814,7 @@ public final class TwoViews {
                 list.addUnpinned(made);
                 return;
             }
-            int total = sheet.rowTotals[r];
+            int total = sheet.totalOf(0, r);
             if (total < 0 || total > MOST_COLUMNS) {
                 return;
             }
@@ -853,21 +856,16 @@ public final class TwoViews {
             }
         }
 
+        /** Which ANSWER a PLANE is, NONE if it is none: by steps, each half as wide as the one before. */
         int numberOf(int plane) {
-            int low = 0;
-            int high = size - 1;
-            while (low <= high) {
-                int middle = (low + high) / 2;
-                if (planes[middle] == plane) {
-                    return middle;
-                }
-                if (planes[middle] < plane) {
-                    low = middle + 1;
-                } else {
-                    high = middle - 1;
+            int number = 0;
+            for (int step = WIDEST_STEP; step > 0; step /= 2) {
+                int next = number + step;
+                if (next < size && planes[next] <= plane) {
+                    number = next;
                 }
             }
-            return NONE;
+            return number < size && planes[number] == plane ? number : NONE;
         }
 
         int openCells() {
@@ -1069,7 +1067,7 @@ public final class TwoViews {
         private static int roomOf(Sheet sheet, int k) {
             int room = 0;
             for (int c = 0; c < sheet.w; c++) {
-                room += Math.min(k, sheet.columnTotals[c]);
+                room += Math.min(k, sheet.totalOf(1, c));
             }
             return room;
         }
@@ -1089,7 +1087,7 @@ public final class TwoViews {
         int fill(Sheet sheet) {
             orderRows(sheet);
             for (int c = 0; c < sheet.w; c++) {
-                lack[c] = sheet.columnTotals[c];
+                lack[c] = sheet.totalOf(1, c);
             }
             int made = 0;
             for (int i = 0; i < sheet.h; i++) {
