@@ -549,20 +549,14 @@ public final class TwoViews {
         }
 
         int totalOf(int side, int i) {
-            if (!hasTotal(side, i)) {
-                return 0;
-            }
-            return side == 0 ? rowTotals[i] : columnTotals[i];
+            int[] totals = side == 0 ? rowTotals : columnTotals;
+            return i >= 0 && i < totals.length ? totals[i] : 0;
         }
 
         void putTotal(int side, int i, int v) {
-            if (!hasTotal(side, i)) {
-                return;
-            }
-            if (side == 0) {
-                rowTotals[i] = v;
-            } else {
-                columnTotals[i] = v;
+            int[] totals = side == 0 ? rowTotals : columnTotals;
+            if (i >= 0 && i < totals.length) {
+                totals[i] = v;
             }
         }
 
@@ -577,11 +571,10 @@ public final class TwoViews {
         /** All TOTALS in one number, another one for others. */
         long totalsAsNumber() {
             long number = 8L * h + w;
-            for (int r = 0; r < h; r++) {
-                number = 8L * number + rowTotals[r];
-            }
-            for (int c = 0; c < w; c++) {
-                number = 8L * number + columnTotals[c];
+            for (int side = 0; side <= 1; side++) {
+                for (int i = 0; i < totalCount(side); i++) {
+                    number = 8L * number + totalOf(side, i);
+                }
             }
             return number;
         }
