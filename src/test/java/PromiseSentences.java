@@ -177,6 +177,36 @@ public final class PromiseSentences {
         dueNext(x, "P33 111 111 o02", "001 010 100");
         dueNext(x, "P33 111 111 o01", "010 001 100");
         dueNext(x, "P11 0 0", "0");
+        fewerBehindMore();
+        dueNone(x, "P25 10 00001", "P25 04 00001");
+        dueNone(x, "P25 10 00001", "P25 05 00001");
+        dueNone(x, "P42 0001 10", "P42 0001 04");
+        dueNone(x, "P45 0001 00001", "P45 0000 40001");
+        dueNone(x, "P33 111 111 o00", "P33 111 111 o00o01");
+        dueNone(x, "P33 111 111 x00x01", "P33 111 111 x00x01x02");
+    }
+
+    /** Rows and columns of a greater sheet are not counted in a less one. */
+    private static void fewerBehindMore() {
+        TwoViews x = told("P45 5555 44444");
+        tellSheet(x, "P33 111 111");
+        due("rows together", x.count(8), 3);
+        due("columns together", x.count(9), 3);
+        due("test", x.test(), NONE);
+        due("mended", x.mended(0), 0);
+        tellSheet(x, "P33 200 200");
+        due("test", x.test(), 1);
+        tellSheet(x, "P11 0 0");
+        due("rows together", x.count(8), 0);
+        due("columns together", x.count(9), 0);
+        due("filled", x.filled(0), 0);
+        due("answers", x.answers(), 1);
+    }
+
+    private static void dueNone(TwoViews x, String some, String none) {
+        due("whether '" + some + "' has answers", tellSheet(x, some) > 0 ? 1 : 0, 1);
+        due("answers of '" + none + "' behind '" + some + "'", tellSheet(x, none), 0);
+        due("plane", x.plane(), NONE);
     }
 
     private static void dueNext(TwoViews x, String text, String want) {
@@ -474,6 +504,8 @@ public final class PromiseSentences {
         TwoViews x = told("P33 111 111");
         due("yes", x.setPin(0, 1), 2);
         due("pin", x.pin(0), 1);
+        due("yes, as it is", x.setPin(0, 1), 2);
+        due("pin", x.pin(0), 1);
         due("otherwise", x.setPin(0, 2), 4);
         due("pin", x.pin(0), 2);
         due("as it is", x.setPin(0, 2), 4);
@@ -567,6 +599,13 @@ public final class PromiseSentences {
         due("the last rows alone", told("P45 0011 11000").switches(0), 1);
         due("r = 2, s = 3, c = 1, d = 0", told("P45 0011 11000").switches(1), 2310);
         due("one column of like ones", told("P25 14 11111").switches(0), 4);
+        due("the last rows of a narrow sheet", told("P42 0011 11").switches(0), 1);
+        due("r = 2, s = 3, c = 1, d = 0", told("P42 0011 11").switches(1), 2310);
+        due("r = 1, s = 3, c = 1, d = 0", told("P42 0101 11").switches(1), 1310);
+        // 010 100 001, cell 0 pinned: rows 0 and 1 have none.
+        TwoViews last = told("P33 111 111 x00");
+        last.go(3);
+        due("r = 0, s = 2, c = 1, d = 2", last.switches(1), 212);
         // 011 001 100: of rows 0 and 1 only the first could give a column.
         due("no switch of the first rows", told("P33 211 112").switches(0), 3);
         due("no switch of the first rows", told("P33 211 112").switches(1), 210);

@@ -804,6 +804,15 @@ public final class TermSentences {
         due("yes in one of four", told("P33 111 111 x00").cell(4, 1), 2);
         due("no in one of four", told("P33 222 222 o00").cell(4, 1), 2);
         due("the last cell of many", told("P45 2332 22222 o34").cell(19, 1), 1);
+        TwoViews allYes = told("P45 5555 44444");
+        TwoViews allNo = told("P45 0000 00000");
+        TwoViews allOpen = told("P45 2332 22222");
+        for (int cell = 0; cell < 20; cell++) {
+            due("yes in all: " + cell, allYes.cell(cell, 1), 1);
+            due("no in all: " + cell, allNo.cell(cell, 1), 0);
+            due("open: " + cell, allOpen.cell(cell, 1), 2);
+        }
+        due("no cell is open", allYes.count(5) + allNo.count(5), 0);
         due("open, of many", told("P45 2332 22222 o34").count(5), 19);
 
         Check.words("Terms 2", "ODDS of a CELL: in how many ANSWERS it is yes, by how many there are.");
@@ -853,6 +862,12 @@ public final class TermSentences {
             due("pinned " + pin, pinned.swap(1, 0, 1, 0), STATE);
             due("pinned " + pin, pinned.switches(0), 0);
         }
+        for (String pins : new String[] {"o00x01", "o00x10", "x01o11", "x10o11", "o00o11", "x01x10"}) {
+            TwoViews pinned = told("P22 11 11" + pins);
+            due("pinned " + pins, pinned.swap(0, 1, 0, 1), STATE);
+            due("pinned " + pins, pinned.switches(0), 0);
+            due("pinned " + pins, pinned.switches(1), NONE);
+        }
         due("pinned beside", told("P33 111 111 o20").swap(0, 1, 2, 1), 1);
         due("rows turned", x.swap(1, 0, 1, 0), 1);
 
@@ -868,10 +883,18 @@ public final class TermSentences {
         due("one switch", told("P22 11 11").reached(), 2);
         due("some behind others", told("P33 111 111").reached(), 6);
         due("more behind others", told("P44 1111 1111").reached(), 24);
+        due("of the last rows of a narrow sheet", told("P42 0011 11").reached(), 2);
+        due("of all rows of a narrow sheet", told("P42 1111 22").reached(), 6);
         TwoViews lastColumn = told("P25 41 11111");
         lastColumn.go(4);
         Check.duePlane(lastColumn, "11110 00001");
         due("by the last column alone", lastColumn.reached(), 5);
+        TwoViews lastColumns = told("P25 32 11111");
+        lastColumns.keep(1);
+        lastColumns.go(9);
+        Check.duePlane(lastColumns, "11100 00011");
+        due("by the last two columns", lastColumns.reached(), 10);
+        due("from all of them to all others", lastColumns.apart(1), 2);
         due("the most", told("P45 2332 22222").reached(), 310);
         TwoViews cut = told("P33 111 111 x00x11x22");
         due("two answers", cut.answers(), 2);
@@ -898,6 +921,10 @@ public final class TermSentences {
         last.keep(0);
         last.go(4);
         due("by the last column alone", last.apart(0), 1);
+        TwoViews narrow = told("P42 0011 11");
+        narrow.keep(0);
+        narrow.go(1);
+        due("by the last rows of a narrow sheet", narrow.apart(0), 1);
         keys();
     }
 
@@ -917,6 +944,9 @@ public final class TermSentences {
         // A yes of row 0, then of row 1, then of row 2 before row 3.
         dueKey("three cells, the last answer", "P44 1111 1111", 23, 3, 10611);
         dueKey("three cells, two of them side by side", "P45 3222 23211", 0, 3, 10206);
+        // As of four columns, each one further.
+        dueKey("three cells, the least is not in it", "P45 1111 01111", 0, 3, 20913);
+        dueKey("a cell of the last row", "P45 0111 11100 x10", 3, 1, 18);
         dueKey("more than three", "P44 2222 2222", 0, NONE, NONE);
         dueKey("more than three", "P45 2332 22222", 309, NONE, NONE);
     }
@@ -960,6 +990,8 @@ public final class TermSentences {
         judgedCells(x);
 
         Check.words("Terms 2", "the place (from 0 on) of the first that can not be (or is not so);");
+        judgedWithoutCell(x);
+        judgedWithoutCell(told("P45 2332 22222"));
         due("the first", x.judge(3, 99999_99999_99999L), 0);
         due("the second", x.judge(3, 60000_99999_99999L), 1);
         due("the third", x.judge(3, 60000_60000_99999L), 2);
@@ -971,6 +1003,17 @@ public final class TermSentences {
         Check.words("Terms 2", "NONE: none.");
         due("all can be", x.judge(3, 10121_20101_50101L), NONE);
         due("nothing has changed", x.plane() + x.count(3) + x.count(6), 0);
+    }
+
+    /** No doing is so of a CELL that is not there, whatever two figures tell it. */
+    private static void judgedWithoutCell(TwoViews x) {
+        for (int cell = x.count(1) * x.count(2); cell <= 99; cell++) {
+            for (int doing = 2; doing <= 5; doing += doing == 2 ? 2 : 1) {
+                for (int v = 0; v <= 2; v++) {
+                    due("doing " + doing + " of cell " + cell, x.judge(1, 10000 * doing + 100 * cell + v), 0);
+                }
+            }
+        }
     }
 
     private static void judgedPins(TwoViews x) {
@@ -1012,6 +1055,10 @@ public final class TermSentences {
         due("more than a column's greatest", wide.judge(1, 31403L), 0);
         due("no such row", wide.judge(1, 30201L), 0);
         due("no plane then, no switch", x.judge(2, 30002_10121L), 1);
+        due("a row, not a column", told("P22 11 12").judge(2, 30002_60001L), NONE);
+        due("a column, not a row", told("P22 12 11").judge(2, 31002_60001L), NONE);
+        due("a row, not a column", told("P22 12 11").judge(2, 30002_60001L), 1);
+        due("a column, not a row", told("P22 11 12").judge(2, 31002_60001L), 1);
     }
 
     private static void judgedCells(TwoViews x) {
@@ -1073,6 +1120,12 @@ public final class TermSentences {
         due("fewer", x.which(0), 4);
         due("the last cell, yes", x.see(8, 1), 4);
         due("fewer", x.which(0), 1);
+        TwoViews twice = told("P33 111 111");
+        twice.see(0, 0);
+        twice.see(0, 0);
+        due("not, and not again", twice.which(0), 4);
+        twice.see(0, 0);
+        due("not for the third time", twice.which(0), 4);
         due("the same again", x.see(8, 1), 5);
         due("as many", x.which(0), 1);
         due("the sixth", x.see(8, 1), 6);
