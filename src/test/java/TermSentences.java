@@ -947,6 +947,8 @@ public final class TermSentences {
         // As of four columns, each one further.
         dueKey("three cells, the least is not in it", "P45 1111 01111", 0, 3, 20913);
         dueKey("a cell of the last row", "P45 0111 11100 x10", 3, 1, 18);
+        // Rows 2 and 3 of the answers: 00101 00110, 00110 00101, 00101 00101, 00101 00011.
+        dueKey("one of the last two cells", "P45 3222 01323 x00x01o11o22", 0, 1, 20);
         dueKey("more than three", "P44 2222 2222", 0, NONE, NONE);
         dueKey("more than three", "P45 2332 22222", 309, NONE, NONE);
     }
